@@ -1111,10 +1111,10 @@ public final class FadingTrumps {
 
         /** The kind of token to which a byte belongs; those that are invalid are signs that no reader takes. */
         private int kindAt(int index) {
-            if (index >= length) {
+            if (index < 0 || index >= length || index >= bytes.length) {
                 return END;
             }
-            int sign = byteAt(index);
+            int sign = bytes[index];
             if (sign == 32 || sign == 10) {
                 return BLANK;
             }
@@ -1423,7 +1423,9 @@ public final class FadingTrumps {
             if (tokens.takeSign('>')) {
                 return '>';
             }
-            tokens.needSign('=');
+            if (!tokens.takeSign('=')) {
+                tokens.fail(ERROR_TOKEN);
+            }
             return '=';
         }
 
@@ -1529,7 +1531,7 @@ public final class FadingTrumps {
         }
     }
 
-    /** Plays all that is left in every way that the rule lets: the player for the most tricks, all others against them. */
+    /** Plays all that is left in every way that the rule lets: one player for the most tricks, all others against. */
     static final class SureSearch {
         private static final int PLACES = 16384;
         private static final int DEPTHS = 13;
