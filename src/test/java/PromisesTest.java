@@ -132,6 +132,8 @@ public final class PromisesTest {
         // the row of the seed 7 begins 7 13 (4) 9 0 11
         dueText("filled up", Check.format(x, 0) + "/" + Check.format(x, 1) + "/" + Check.format(x, 2),
             "e4 a2/e1 i2/s1 i4");
+        x = Check.loaded("blue 9 2 5 seed 0;");
+        dueText("seed 0", Check.format(x, 0), "i2 i3 i5 i9 a5");
         x = Check.loaded("blue 13 4 13 seed 99999;");
         dueText("hand 3 of the largest game", Check.format(x, 3),
             "s5 s13 e1 e3 e7 e9 e13 i4 i6 i7 i9 a3 a5");
@@ -596,8 +598,8 @@ public final class PromisesTest {
 
     private static void dueSure(String text, int sure, int card) {
         FadingTrumps x = Check.loaded(text);
-        C.due("sure() of " + text, x.sure(), sure);
         C.due("sureCard() of " + text, x.sureCard(), card);
+        C.due("sure() of " + text, x.sure(), sure);
     }
 
     private static void sure() {
@@ -1054,6 +1056,9 @@ public final class PromisesTest {
         dueQuery(x, "many played=1", 6);
         dueQuery(x, "many trump=1", 0);
         dueQuery(x, "many power=rank", 16);
+        for (int i = 0; i < 60; i++) {
+            dueQuery(x, "first card=1 or card=2 and card=3 or not card<" + i % 17, i % 17 == 0 ? 0 : 1);
+        }
         StringBuilder b = new StringBuilder("many 1=1");
         while (b.length() < 192) {
             b.append("and 1=1");

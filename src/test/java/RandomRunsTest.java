@@ -342,8 +342,13 @@ public final class RandomRunsTest {
         if (n > dearSearches && n <= 12) {
             return true;
         }
-        return same("sure()", () -> x.sure(), () -> m.sure())
-            && same("sureCard()", () -> x.sureCard(), () -> m.sureCard());
+        boolean cardFirst = random.nextBoolean();
+        return (!cardFirst || sureCard()) && same("sure()", () -> x.sure(), () -> m.sure())
+            && (cardFirst || sureCard());
+    }
+
+    private boolean sureCard() {
+        return same("sureCard()", () -> x.sureCard(), () -> m.sureCard());
     }
 
     private boolean ofCard(int c) {
