@@ -61,6 +61,14 @@ final class Check {
         return failed > 0;
     }
 
+    int passed() {
+        return passed;
+    }
+
+    int failed() {
+        return failed;
+    }
+
     void end() {
         System.out.println(passed + " passed, " + failed + " failed");
         if (failed > 0 || passed == 0) {
