@@ -3,10 +3,6 @@ final class AnswerSentences extends SentenceTests {
     private static final String NO_CARD = "Throws `NoSuchElementException` if there is no such card";
     private static final String NO_PLAYER = "Throws `NoSuchElementException` if there is no such player";
 
-    /** Player 0: sky 1 and sea 2; player 1: sky 2 and ink 1; player 2: sea 1 and ink 2. Sea is trump. */
-    private static final String THREE =
-        "blue 4 3 2 rule 1 trump 1 glow 3 fade 2 lead 1;hand 0 0 5;hand 1 1 8;hand 2 4 9;";
-
     AnswerSentences(Doc doc, Check check) {
         super(doc, check);
     }
@@ -85,7 +81,8 @@ final class AnswerSentences extends SentenceTests {
             same("the least", sizesOf(game("blue 4 2 1 rule 0;")).substring(0, 7), "4 2 1 0");
             same("the most", sizesOf(game("blue 13 4 13 rule 3;")).substring(0, 9), "13 4 13 3");
         });
-        doc.promise(5, "4 the trump (NONE without one), 5 the glow, 6 GLOW, 7 FADE, 8 1 if REVIVE is on, otherwise 0,", () -> {
+        doc.promise(5, "4 the trump (NONE without one), 5 the glow, 6 GLOW, 7 FADE, 8 1 if REVIVE is on, otherwise 0,",
+            () -> {
             FadingTrumps x = game("blue 4 2 2 trump 3 glow 30 fade 9 revive;");
             due("the trump", x.size(4), 3);
             due("the glow", x.size(5), 30);
@@ -122,30 +119,31 @@ final class AnswerSentences extends SentenceTests {
             x.undo();
             due("the last card is undone", x.size(9), 2);
         });
-        doc.promise(5, "10 the player who leads the present trick, or would lead the next one (also behind the last trick of a "
-            + "hand),", () -> {
-                FadingTrumps x = game("blue 4 3 2;hand 0 0 4;hand 1 1 5;hand 2 2 6;");
-                due("ahead of a trick", x.size(10), 0);
-                plays(x, 0);
-                due("in a trick", x.size(10), 0);
-                plays(x, 1);
-                due("in a trick, not who has it so far", x.size(10), 0);
-                plays(x, 2);
-                due("behind a trick", x.size(10), 2);
-                plays(x, 6, 4);
-                due("in the last trick", x.size(10), 2);
-                plays(x, 5);
-                due("behind the last trick", x.size(10), 2);
-                FadingTrumps y = game("blue 4 2 1;hand 0 0;hand 1 1;");
-                plays(y, 0, 1);
-                due("who would lead the next one", y.size(10), 1);
-                y.deal(0);
-                due("who leads the next hand", y.size(10), 1);
-                y.auto(2);
-                y.deal(0);
-                due("who leads the hand behind it", y.size(10), 0);
-            });
-        doc.promise(5, "11 complete tricks of the hand, 12 cards that were played in the hand, 13 hands that are over", () -> {
+        doc.promise(5, "10 the player who leads the present trick, or would lead the next one (also behind the last "
+            + "trick of a hand),", () -> {
+            FadingTrumps x = game("blue 4 3 2;hand 0 0 4;hand 1 1 5;hand 2 2 6;");
+            due("ahead of a trick", x.size(10), 0);
+            plays(x, 0);
+            due("in a trick", x.size(10), 0);
+            plays(x, 1);
+            due("in a trick, not who has it so far", x.size(10), 0);
+            plays(x, 2);
+            due("behind a trick", x.size(10), 2);
+            plays(x, 6, 4);
+            due("in the last trick", x.size(10), 2);
+            plays(x, 5);
+            due("behind the last trick", x.size(10), 2);
+            FadingTrumps y = game("blue 4 2 1;hand 0 0;hand 1 1;");
+            plays(y, 0, 1);
+            due("who would lead the next one", y.size(10), 1);
+            y.deal(0);
+            due("who leads the next hand", y.size(10), 1);
+            y.auto(2);
+            y.deal(0);
+            due("who leads the hand behind it", y.size(10), 0);
+        });
+        doc.promise(5, "11 complete tricks of the hand, 12 cards that were played in the hand, 13 hands that are over",
+            () -> {
             FadingTrumps x = game("blue 13 4 13;");
             for (int cards = 0; cards <= 52; cards++) {
                 due("complete tricks of " + cards, x.size(11), cards / 4);
@@ -240,7 +238,8 @@ final class AnswerSentences extends SentenceTests {
                 }
             }
         });
-        doc.promise(10, "Throws `NoSuchElementException` if there is no such player, or they have not so many", this::notSoMany);
+        doc.promise(10, "Throws `NoSuchElementException` if there is no such player, or they have not so many",
+            this::notSoMany);
         doc.promise(11, "Returns how many cards of a suit a player has in their hand.", () -> {
             FadingTrumps x = game("blue 4 2 8;hand 1 0 3 4 8 9 10 11 15;");
             same("player 1", ofSuits(x, 1), "2 1 4 1");
@@ -249,7 +248,8 @@ final class AnswerSentences extends SentenceTests {
             same("behind a trick", ofSuits(x, 1), "1 1 4 1");
             x.auto(52);
             same("behind the hand", ofSuits(x, 1), "0 0 0 0");
-            same("a whole suit", ofSuits(game("blue 13 2 13;hand 0 39 40 41 42 43 44 45 46 47 48 49 50 51;"), 0), "0 0 0 13");
+            FadingTrumps y = game("blue 13 2 13;hand 0 39 40 41 42 43 44 45 46 47 48 49 50 51;");
+            same("a whole suit", ofSuits(y, 0), "0 0 0 13");
         });
         doc.promise(11, "Throws `NoSuchElementException` if there is no such player or suit", () -> {
             players("ofSuit", (x, w) -> x.ofSuit(w, 3));
@@ -281,7 +281,8 @@ final class AnswerSentences extends SentenceTests {
     // ---- 12, 13: isLegal, legal
 
     private void legal() {
-        doc.promise(12, "Returns whether the player whose turn it is has a card and may play it (false if the hand is over).", () -> {
+        doc.promise(12, "Returns whether the player whose turn it is has a card and may play it (false if the hand is "
+            + "over).", () -> {
             FadingTrumps x = game(THREE);
             same("who leads", legalOf(x), "1 8");
             no("a card of another one", x.isLegal(0));
@@ -317,8 +318,8 @@ final class AnswerSentences extends SentenceTests {
     // ---- 14 to 17: power, led, winning, wouldLead
 
     private void presentTrick() {
-        doc.promise(14, "Returns the power of a card in the present trick, as if it was played now (whoever has it, also if the hand "
-            + "is over);", this::powerInTrick);
+        doc.promise(14, "Returns the power of a card in the present trick, as if it was played now (whoever has it, "
+            + "also if the hand is over);", this::powerInTrick);
         doc.promise(14, "if no card was played in it, as if it led.", () -> {
             FadingTrumps x = game(THREE);
             for (int card = 0; card < 16; card++) {
@@ -346,7 +347,8 @@ final class AnswerSentences extends SentenceTests {
             plays(x, 5, 8);
             due("behind the hand", x.led(), NONE);
         });
-        doc.promise(16, "Returns the player whose card would win the present trick as it is; NONE if no card was played in it.", () -> {
+        doc.promise(16, "Returns the player whose card would win the present trick as it is; NONE if no card was "
+            + "played in it.", () -> {
             FadingTrumps x = game(THREE);
             due("ahead of a trick", x.winning(), NONE);
             plays(x, 1);
@@ -363,8 +365,8 @@ final class AnswerSentences extends SentenceTests {
             plays(y, 3, 5);
             due("of as much power the first one", y.winning(), 0);
         });
-        doc.promise(17, "Returns whether a card, whoever has it, would be the best one of the present trick, if it was played now (true "
-            + "if no card was played in it).", this::bestCards);
+        doc.promise(17, "Returns whether a card, whoever has it, would be the best one of the present trick, if it "
+            + "was played now (true if no card was played in it).", this::bestCards);
         noCard(17, "wouldLead", (x, w) -> Check.flag(x.wouldLead(w)));
     }
 
@@ -416,23 +418,23 @@ final class AnswerSentences extends SentenceTests {
     // ---- 18, 19: played, trick
 
     private void playedCards() {
-        doc.promise(18, "Returns a number of a card that was played in the hand, from 0 in their order: what 0 the card, 1 the player, "
-            + "2 its trick (from 0).", () -> {
-                FadingTrumps x = game(THREE);
-                plays(x, 1, 4, 0, 9);
-                int[][] due = {{1, 1, 0}, {4, 2, 0}, {0, 0, 0}, {9, 2, 1}};
-                for (int i = 0; i < 12; i++) {
-                    due("played(" + i / 3 + ", " + i % 3 + ")", x.played(i / 3, i % 3), due[i / 3][i % 3]);
-                }
-                FadingTrumps y = game("blue 13 4 13;");
-                y.auto(52);
-                for (int i = 0; i < 52; i++) {
-                    due("the trick of " + i, y.played(i, 2), i / 4);
-                }
-                y.deal(5);
-                y.auto(1);
-                due("in a new hand", y.played(0, 2), 0);
-            });
+        doc.promise(18, "Returns a number of a card that was played in the hand, from 0 in their order: what 0 the "
+            + "card, 1 the player, 2 its trick (from 0).", () -> {
+            FadingTrumps x = game(THREE);
+            plays(x, 1, 4, 0, 9);
+            int[][] due = {{1, 1, 0}, {4, 2, 0}, {0, 0, 0}, {9, 2, 1}};
+            for (int i = 0; i < 12; i++) {
+                due("played(" + i / 3 + ", " + i % 3 + ")", x.played(i / 3, i % 3), due[i / 3][i % 3]);
+            }
+            FadingTrumps y = game("blue 13 4 13;");
+            y.auto(52);
+            for (int i = 0; i < 52; i++) {
+                due("the trick of " + i, y.played(i, 2), i / 4);
+            }
+            y.deal(5);
+            y.auto(1);
+            due("in a new hand", y.played(0, 2), 0);
+        });
         doc.promise(18, "Throws `NoSuchElementException` if there are not so many or what is out of range", () -> {
             FadingTrumps x = game(THREE);
             noSuch("none", () -> x.played(0, 0));
@@ -450,8 +452,9 @@ final class AnswerSentences extends SentenceTests {
             y.auto(52);
             only("played of the most", 52, w -> y.played(w, 2));
         });
-        doc.promise(19, "Returns a number of a complete trick of the hand: what 0 who led it, 1 who has it, 2 the card that won, 3 the "
-            + "suit that was led, 4 the trump (NONE without one) and 5 the glow as it was played.", this::completeTricks);
+        doc.promise(19, "Returns a number of a complete trick of the hand: what 0 who led it, 1 who has it, 2 the "
+            + "card that won, 3 the suit that was led, 4 the trump (NONE without one) and 5 the glow as it was played.",
+            this::completeTricks);
         doc.promise(19, "Throws `NoSuchElementException` if there is no such trick or what is out of range", () -> {
             FadingTrumps x = game(THREE);
             noSuch("none", () -> x.trick(0, 0));
@@ -497,6 +500,19 @@ final class AnswerSentences extends SentenceTests {
         FadingTrumps w = game("blue 4 2 1 trump 3 glow 0;");
         w.auto(2);
         same("a trump without a glow", trickOf(w, 0).replaceAll("^\\S+ \\S+ \\S+ \\S+ ", ""), "3 0");
+        FadingTrumps v = game("blue 13 4 13 trump 2 glow 30 fade 3 lead 3 seed 9;");
+        v.auto(52);
+        for (int trick = 0; trick < 13; trick++) {
+            int winner = NONE;
+            for (int i = 4 * trick; i < 4 * trick + 4; i++) {
+                winner = v.played(i, 0) == v.trick(trick, 2) ? v.played(i, 1) : winner;
+            }
+            same("the trick " + trick + " of the longest hand", trickOf(v, trick), v.played(4 * trick, 1) + " "
+                + winner + " "
+                + v.trick(trick, 2) + " " + v.suit(v.played(4 * trick, 0)) + (trick < 10 ? " 2 "
+                + (30 - 3 * trick) : " -1 0"));
+            due("who leads the next one", trick < 12 ? v.trick(trick + 1, 0) : v.size(10), winner);
+        }
     }
 
     // ---- 20 to 23: tricks, told, result, points
@@ -529,7 +545,8 @@ final class AnswerSentences extends SentenceTests {
             due("in a new hand", x.told(1), NONE);
         });
         noPlayer(21, "told", FadingTrumps::told);
-        doc.promise(22, "Returns the result of a player in the hand, if it was over with the tricks that they have now.", () -> {
+        doc.promise(22, "Returns the result of a player in the hand, if it was over with the tricks that they have "
+            + "now.", () -> {
             FadingTrumps x = game(THREE + "tell 0 1;tell 2 0;");
             due("0 of 1", x.result(0), -1);
             due("0 of 0", x.result(2), 10);
@@ -562,24 +579,26 @@ final class AnswerSentences extends SentenceTests {
     // ---- 24 ranking
 
     private void ranking() {
-        doc.promise(24, "Returns the player at a place (from 0) by points, the most first, of several the smallest player first.", () -> {
+        doc.promise(24, "Returns the player at a place (from 0) by points, the most first, of several the smallest "
+            + "player first.", () -> {
             same("all 0", rankingOf(new FadingTrumps()), "0 1 ");
             same("all 0", rankingOf(game("blue 4 4 3;")), "0 1 2 3 ");
-            same("one is best", rankingOf(behind("hand 3 3;hand 0 0;hand 1 1;hand 2 2;")), "3 0 1 2 ");
-            same("the first one is best", rankingOf(behind("hand 0 3;hand 1 0;hand 2 1;hand 3 2;")), "0 1 2 3 ");
-            same("one is worst", rankingOf(behind("hand 3 3;hand 0 0;hand 1 1;hand 2 2;tell 0 1;tell 1 0;")), "1 3 2 0 ");
-            same("all the same but one", rankingOf(behind("hand 0 3;hand 1 0;hand 2 1;hand 3 2;tell 0 0;")), "1 2 3 0 ");
-            same("two pairs", rankingOf(behind("hand 0 3;hand 1 0;hand 2 1;hand 3 2;tell 1 0;tell 3 0;tell 0 0;tell 2 1;")),
-                "1 3 0 2 ");
-            same("all differ", rankingOf(behind("hand 1 3;hand 0 0;hand 2 1;hand 3 2;tell 0 1;tell 1 1;tell 3 0;")), "1 3 2 0 ");
+            ranked("one is best", "hand 3 3;hand 0 0;hand 1 1;hand 2 2;", "3 0 1 2 ");
+            ranked("the first one is best", "hand 0 3;hand 1 0;hand 2 1;hand 3 2;", "0 1 2 3 ");
+            ranked("one is worst", "hand 3 3;hand 0 0;hand 1 1;hand 2 2;tell 0 1;tell 1 0;", "1 3 2 0 ");
+            ranked("all the same but one", "hand 0 3;hand 1 0;hand 2 1;hand 3 2;tell 0 0;", "1 2 3 0 ");
+            ranked("two pairs", "hand 0 3;hand 1 0;hand 2 1;hand 3 2;tell 1 0;tell 3 0;tell 0 0;tell 2 1;", "1 3 0 2 ");
+            ranked("all differ", "hand 1 3;hand 0 0;hand 2 1;hand 3 2;tell 0 1;tell 1 1;tell 3 0;", "1 3 2 0 ");
         });
-        doc.promise(24, "Throws `NoSuchElementException` if there is no such place", () -> players("ranking", FadingTrumps::ranking));
+        doc.promise(24, "Throws `NoSuchElementException` if there is no such place",
+            () -> players("ranking", FadingTrumps::ranking));
     }
 
-    private FadingTrumps behind(String clauses) {
+    /** The ranking behind a hand of one trick. */
+    private void ranked(String what, String clauses, String due) {
         FadingTrumps x = game("blue 4 4 1;" + clauses);
         x.auto(4);
-        return x;
+        same(what, rankingOf(x), due);
     }
 
     private String rankingOf(FadingTrumps x) {
@@ -615,8 +634,8 @@ final class AnswerSentences extends SentenceTests {
             only("lacks of a suit", 4, w -> Check.flag(x.lacks(2, w)));
             noSuch("both", () -> Check.flag(x.lacks(3, 4)));
         });
-        doc.promise(26, "Returns whether a player can have a card by what all know: it was not played, and they are not known to lack "
-            + "its suit; false if they have no cards left.", this::couldHave);
+        doc.promise(26, "Returns whether a player can have a card by what all know: it was not played, and they are "
+            + "not known to lack its suit; false if they have no cards left.", this::couldHave);
         doc.promise(26, "Throws `NoSuchElementException` if there is no such player or card", () -> {
             players("could", (x, w) -> Check.flag(x.could(w, 15)));
             FadingTrumps x = game("blue 4 2 3;");
@@ -627,7 +646,8 @@ final class AnswerSentences extends SentenceTests {
             FadingTrumps y = game("blue 13 4 13;");
             only("could of the most", 52, w -> Check.flag(y.could(3, w)));
         });
-        doc.promise(27, "Returns how many cards there are that were not played and are not in the hand of a player.", () -> {
+        doc.promise(27, "Returns how many cards there are that were not played and are not in the hand of a player.",
+            () -> {
             FadingTrumps x = game(THREE);
             due("at first", x.unseen(0), 14);
             plays(x, 1);
@@ -668,13 +688,14 @@ final class AnswerSentences extends SentenceTests {
     // ---- 28, 29: isMaster, masters
 
     private void masters() {
-        doc.promise(28, "Returns whether a card is in a hand, and no card in another hand would have as much power or more in a trick "
-            + "that it led now.", this::masterCards);
+        doc.promise(28, "Returns whether a card is in a hand, and no card in another hand would have as much power or "
+            + "more in a trick that it led now.", this::masterCards);
         noCard(28, "isMaster", (x, w) -> Check.flag(x.isMaster(w)));
         doc.promise(29, "Returns how many such cards a player has.", () -> {
             FadingTrumps x = game(THREE);
             same("at first", x.masters(0) + " " + x.masters(1) + " " + x.masters(2), "1 0 0");
-            FadingTrumps y = game("blue 13 2 13;hand 0 0 1 2 3 4 5 6 7 8 9 10 11 12;hand 1 13 14 15 16 17 18 19 20 21 22 23 24 25;");
+            FadingTrumps y = game("blue 13 2 13;hand 0 0 1 2 3 4 5 6 7 8 9 10 11 12;"
+                + "hand 1 13 14 15 16 17 18 19 20 21 22 23 24 25;");
             same("all of them", y.masters(0) + " " + y.masters(1), "13 13");
             y.setTrump(1);
             same("all of the trump", y.masters(0) + " " + y.masters(1), "0 13");
@@ -692,6 +713,10 @@ final class AnswerSentences extends SentenceTests {
         return b.toString().trim();
     }
 
+    private void masters(String what, String text, String due) {
+        same(what, mastersOf(game(text)), due);
+    }
+
     private void masterCards() {
         same("with a trump", mastersOf(game(THREE)), "5");
         FadingTrumps x = game("blue 4 2 2;hand 0 0 2;hand 1 1 4;");
@@ -702,13 +727,14 @@ final class AnswerSentences extends SentenceTests {
         same("behind a trick", mastersOf(x), "0 4");
         x.auto(52);
         same("behind the hand", mastersOf(x), "");
-        same("of one's own hand none counts", mastersOf(game("blue 4 2 2;hand 0 2 3;hand 1 0 1;")), "2 3");
-        same("a trump with less power", mastersOf(game("blue 4 2 2 trump 1 glow 2;hand 0 3 2;hand 1 4 8;")), "3 4 8");
-        same("a trump with as much power", mastersOf(game("blue 4 2 2 trump 1 glow 3;hand 0 3 2;hand 1 4 8;")), "4 8");
-        same("a trump with more power", mastersOf(game("blue 4 2 2 trump 1 glow 4;hand 0 3 2;hand 1 4 8;")), "4 8");
-        same("an own trump does not count", mastersOf(game("blue 4 2 2 trump 1 glow 9;hand 0 0 4;hand 1 8 12;")), "0 4");
-        same("a trump without a glow, as much power", mastersOf(game("blue 4 2 2 trump 1 glow 0;hand 0 0 1;hand 1 4 8;")), "1 4 8");
-        same("all other hands count", mastersOf(game("blue 4 4 1;hand 0 2;hand 1 0;hand 2 1;hand 3 3;")), "3");
+        masters("of one's own hand none counts", "blue 4 2 2;hand 0 2 3;hand 1 0 1;", "2 3");
+        masters("a trump with less power", "blue 4 2 2 trump 1 glow 2;hand 0 3 2;hand 1 4 8;", "3 4 8");
+        masters("a trump with as much power", "blue 4 2 2 trump 1 glow 3;hand 0 3 2;hand 1 4 8;", "4 8");
+        masters("a trump with more power", "blue 4 2 2 trump 1 glow 4;hand 0 3 2;hand 1 4 8;", "4 8");
+        masters("an own trump does not count", "blue 4 2 2 trump 1 glow 9;hand 0 0 4;hand 1 8 12;", "0 4");
+        masters("a trump without a glow", "blue 4 2 2 trump 1 glow 0;hand 0 0 1;hand 1 4 8;", "1 4 8");
+        masters("the lowest trump counts, too", "blue 4 2 2 trump 0 glow 9;hand 0 15 7;hand 1 0 8;", "0 8");
+        masters("all other hands count", "blue 4 4 1;hand 0 2;hand 1 0;hand 2 1;hand 3 3;", "3");
         FadingTrumps y = game("blue 4 2 2 rule 0 trump 0 glow 9;hand 0 12 15;hand 1 8 14;");
         plays(y, 12);
         same("in a trick that it led, not in the present one", mastersOf(y), "8 15");
@@ -720,15 +746,18 @@ final class AnswerSentences extends SentenceTests {
     // ---- 30 darkIn
 
     private void darkIn() {
-        String start = "Returns in how many tricks from now on the glow would become 0 by fading, as it is and with FADE as it is ";
-        doc.promise(30, start + "(also if it passes to another suit then, and whether there are so many tricks or not);", () -> {
+        String start = "Returns in how many tricks from now on the glow would become 0 by fading, as it is and with "
+            + "FADE as it is ";
+        doc.promise(30, start + "(also if it passes to another suit then, and whether there are so many tricks or "
+            + "not);", () -> {
             for (int glow = 1; glow <= 30; glow++) {
                 for (int fade = 1; fade <= 9; fade++) {
                     int tricks = 0;
                     for (int left = glow; left > 0; left -= fade) {
                         tricks++;
                     }
-                    due("the glow " + glow + " and FADE " + fade, dark("trump 1 glow " + glow + " fade " + fade), tricks);
+                    due("the glow " + glow + " and FADE " + fade, dark("trump 1 glow " + glow + " fade " + fade),
+                        tricks);
                 }
             }
             due("it passes", dark("trump 1 glow 3 fade 2 revive"), 2);
@@ -765,28 +794,30 @@ final class AnswerSentences extends SentenceTests {
     // ---- 31, 32: sure, sureCard
 
     private void sure() {
-        doc.promise(31, "Returns the sure tricks of the player whose turn it is; NONE if the hand is over, or there are more than 12 "
-            + "cards in hands.", () -> {
-                for (String head : new String[] {"blue 4 2 7", "blue 4 3 5", "blue 4 4 4", "blue 13 4 13"}) {
-                    atMostTwelve(head, "sure");
-                }
-                FadingTrumps x = game("blue 13 2 6;hand 0 7 8 9 10 11 12;hand 1 1 2 3 4 5 6;");
-                due("12 cards", x.sure(), 6);
-                changesNothing("sure", x, x::sure);
-                FadingTrumps y = game("blue 4 2 1;hand 0 3;hand 1 2;");
-                due("all tricks", y.sure(), 1);
-                plays(y, 3);
-                due("none", y.sure(), 0);
-                plays(y, 2);
-                due("the hand is over", y.sure(), NONE);
-                y.deal(0);
-                yes("in a new hand", y.sure() >= 0);
-            });
-        doc.promise(32, "Returns the smallest card with which the player whose turn it is can have their sure tricks;", () -> {
+        doc.promise(31, "Returns the sure tricks of the player whose turn it is; NONE if the hand is over, or there "
+            + "are more than 12 cards in hands.", () -> {
+            for (String head : new String[] {"blue 4 2 7", "blue 4 3 5", "blue 4 4 4", "blue 13 4 13"}) {
+                atMostTwelve(head, "sure");
+            }
+            FadingTrumps x = game("blue 13 2 6;hand 0 7 8 9 10 11 12;hand 1 1 2 3 4 5 6;");
+            due("12 cards", x.sure(), 6);
+            changesNothing("sure", x, x::sure);
+            FadingTrumps y = game("blue 4 2 1;hand 0 3;hand 1 2;");
+            due("all tricks", y.sure(), 1);
+            plays(y, 3);
+            due("none", y.sure(), 0);
+            plays(y, 2);
+            due("the hand is over", y.sure(), NONE);
+            y.deal(0);
+            yes("in a new hand", y.sure() >= 0);
+        });
+        doc.promise(32, "Returns the smallest card with which the player whose turn it is can have their sure tricks;",
+            () -> {
             due("each card will do", sureCard("blue 4 2 3;hand 0 11 2 3;hand 1 12 13 14;"), 2);
             due("no card will do", sureCard("blue 4 2 2;hand 0 4 0;hand 1 3 7;"), 0);
             due("the larger one", sureCard("blue 4 2 2;hand 0 1 7;hand 1 2 3;"), 7);
-            due("the card with which two will come", sureCard("blue 4 2 2 trump 2 glow 3 fade 3 revive;hand 0 3 7;hand 1 1 2;"), 7);
+            due("the card with which two will come", sureCard("blue 4 2 2 trump 2 glow 3 fade 3 revive;hand 0 3 "
+                + "7;hand 1 1 2;"), 7);
             FadingTrumps x = game("blue 4 2 2;hand 0 1 4;hand 1 0 2 ;");
             plays(x, 1);
             due("of what they may play", x.sureCard(), 2);
@@ -834,17 +865,17 @@ final class AnswerSentences extends SentenceTests {
     }
 
     private void means() {
-        doc.promise(33, "Returns the ranks of the cards in the hand of a player, added up, divided by their number, as doubles (both "
-            + "converted, then divided);", () -> {
-                dueDouble("8 / 3", game("blue 9 2 3;hand 0 0 1 4;").meanRank(0), 8.0 / 3.0);
-                dueDouble("10 / 7", game("blue 9 2 7;hand 0 0 9 18 27 1 10 19;").meanRank(0), 10.0 / 7.0);
-                dueDouble("1", game("blue 4 2 1;hand 0 12;").meanRank(0), 1.0);
-                dueDouble("13", game("blue 13 2 1;hand 1 51;").meanRank(1), 13.0);
-                dueDouble("91 / 13", game("blue 13 2 13;hand 1 0 1 2 3 4 5 6 7 8 9 10 11 12;").meanRank(1), 7.0);
-                FadingTrumps x = game("blue 9 2 3;hand 0 0 1 4;");
-                plays(x, 4);
-                dueDouble("3 / 2 behind a card", x.meanRank(0), 1.5);
-            });
+        doc.promise(33, "Returns the ranks of the cards in the hand of a player, added up, divided by their number, "
+            + "as doubles (both converted, then divided);", () -> {
+            dueDouble("8 / 3", game("blue 9 2 3;hand 0 0 1 4;").meanRank(0), 8.0 / 3.0);
+            dueDouble("10 / 7", game("blue 9 2 7;hand 0 0 9 18 27 1 10 19;").meanRank(0), 10.0 / 7.0);
+            dueDouble("1", game("blue 4 2 1;hand 0 12;").meanRank(0), 1.0);
+            dueDouble("13", game("blue 13 2 1;hand 1 51;").meanRank(1), 13.0);
+            dueDouble("91 / 13", game("blue 13 2 13;hand 1 0 1 2 3 4 5 6 7 8 9 10 11 12;").meanRank(1), 7.0);
+            FadingTrumps x = game("blue 9 2 3;hand 0 0 1 4;");
+            plays(x, 4);
+            dueDouble("3 / 2 behind a card", x.meanRank(0), 1.5);
+        });
         doc.promise(33, "0 without cards.", () -> {
             FadingTrumps x = game("blue 4 2 1;");
             x.auto(1);
@@ -854,25 +885,25 @@ final class AnswerSentences extends SentenceTests {
             dueDouble("behind the hand", x.meanRank(1), 0.0);
         });
         noPlayer(33, "meanRank", (x, w) -> (long) x.meanRank(w));
-        doc.promise(34, "Returns the tricks of a player divided by all complete tricks of the hand, as floats (both converted, then "
-            + "divided);", () -> {
-                FadingTrumps x = game("blue 4 2 3;hand 0 0 1 7;hand 1 2 3 6;");
-                plays(x, 0, 2);
-                dueFloat("0 / 1", x.share(0), 0.0f);
-                dueFloat("1 / 1", x.share(1), 1.0f);
-                plays(x, 3);
-                dueFloat("1 / 1 in the next trick", x.share(1), 1.0f);
-                plays(x, 1);
-                dueFloat("2 / 2", x.share(1), 1.0f);
-                plays(x, 6, 7);
-                dueFloat("1 / 3", x.share(0), 1.0f / 3.0f);
-                dueFloat("2 / 3", x.share(1), 2.0f / 3.0f);
-                FadingTrumps y = game("blue 13 4 13;");
-                y.auto(52);
-                for (int player = 0; player < 4; player++) {
-                    dueFloat("of 13", y.share(player), (float) y.tricks(player) / 13.0f);
-                }
-            });
+        doc.promise(34, "Returns the tricks of a player divided by all complete tricks of the hand, as floats (both "
+            + "converted, then divided);", () -> {
+            FadingTrumps x = game("blue 4 2 3;hand 0 0 1 7;hand 1 2 3 6;");
+            plays(x, 0, 2);
+            dueFloat("0 / 1", x.share(0), 0.0f);
+            dueFloat("1 / 1", x.share(1), 1.0f);
+            plays(x, 3);
+            dueFloat("1 / 1 in the next trick", x.share(1), 1.0f);
+            plays(x, 1);
+            dueFloat("2 / 2", x.share(1), 1.0f);
+            plays(x, 6, 7);
+            dueFloat("1 / 3", x.share(0), 1.0f / 3.0f);
+            dueFloat("2 / 3", x.share(1), 2.0f / 3.0f);
+            FadingTrumps y = game("blue 13 4 13;");
+            y.auto(52);
+            for (int player = 0; player < 4; player++) {
+                dueFloat("of 13", y.share(player), (float) y.tricks(player) / 13.0f);
+            }
+        });
         doc.promise(34, "0 without any.", () -> {
             FadingTrumps x = game("blue 4 2 3;");
             dueFloat("at first", x.share(0), 0.0f);

@@ -3,13 +3,8 @@ import java.util.List;
 
 /** The section 8 of the terms, and the promises 35 to 48: what changes the game, undoing and snapshots, format. */
 final class OperationSentences extends SentenceTests {
-    private static final String RETURNS_OVER = "-2 if the hand is over.";
-
-    /** Player 0: sky 1 and sea 2; player 1: sky 2 and ink 1; player 2: sea 1 and ink 2. Sea is trump. */
-    private static final String THREE =
-        "blue 4 3 2 rule 1 trump 1 glow 3 fade 2 lead 1;hand 0 0 5;hand 1 1 8;hand 2 4 9;";
-
-    private static final String[] NAMES = {"play", "auto", "tell", "deal", "setTrump", "setRule", "setFade", "setRevive"};
+    private static final String[] NAMES = {"play", "auto", "tell", "deal", "setTrump", "setRule", "setFade",
+        "setRevive"};
 
     OperationSentences(Doc doc, Check check) {
         super(doc, check);
@@ -33,13 +28,15 @@ final class OperationSentences extends SentenceTests {
     // ---- 8 operations
 
     private void operations() {
-        doc.term(8, "play, auto, tell, deal, setTrump, setRule, setFade and setRevive are operations.", this::allOperations);
+        doc.term(8, "play, auto, tell, deal, setTrump, setRule, setFade and setRevive are operations.",
+            this::allOperations);
         doc.term(8, "Every successful call is recorded, even if it changes nothing;", this::recorded);
         doc.term(8, "a call that returns a negative error code or throws an exception changes nothing;", this::refused);
-        doc.term(8, "error codes are checked behind the exceptions, in the order in which they are listed.", this::order);
+        doc.term(8, "error codes are checked behind the exceptions, in the order in which they are listed.",
+            this::order);
         doc.term(8, "The 10 most recent operations can be undone, the most recent one first.", this::tenMostRecent);
-        doc.term(8, "Undoing restores everything that the operation changed, but not the buffer, the error position and the text of "
-            + "format.", this::restores);
+        doc.term(8, "Undoing restores everything that the operation changed, but not the buffer, the error position "
+            + "and the text of format.", this::restores);
     }
 
     /** A game in which the operation of this number can be done. */
@@ -228,6 +225,7 @@ final class OperationSentences extends SentenceTests {
             operate(x, operation);
             same(NAMES[operation] + " once more", stateOf(x), behind);
         }
+        overHands();
         FadingTrumps x = game(THREE);
         Check.feed(x, "many card<5");
         x.setFade(7);
@@ -248,6 +246,71 @@ final class OperationSentences extends SentenceTests {
         due("not the text of format", x.formattedByte(2), NONE);
     }
 
+    /** Ten operations over two hands, undone one by one, and then done again in the same way. */
+    private void overHands() {
+        FadingTrumps x = game("blue 5 3 2 rule 0 trump 2 glow 3 fade 3 revive lead 1 seed 3;tell 1 1;");
+        List<String> states = new ArrayList<>();
+        for (int round = 0; round < 2; round++) {
+            for (int i = 0; i < 10; i++) {
+                states.add(stateOf(x));
+                yes("an operation", overHands(x, i) >= 0);
+            }
+            String end = stateOf(x);
+            for (int i = 9; i >= 0; i--) {
+                due("undo", x.undo(), i);
+                same("behind undo of the operation " + i, stateOf(x), states.get(10 * round + i));
+            }
+            same("the beginning", stateOf(x), states.get(0));
+            x.saveSnapshot();
+            for (int i = 0; i < 10; i++) {
+                overHands(x, i);
+            }
+            same("the same operations again", stateOf(x), end);
+            x.restoreSnapshot();
+            same("the beginning by the snapshot", stateOf(x), states.get(0));
+        }
+        betterCardUndone();
+    }
+
+    private int overHands(FadingTrumps x, int i) {
+        switch (i) {
+            case 0: return x.tell(0, 2);
+            case 1: return x.setRule(1);
+            case 2: return x.auto(4);
+            case 3: return x.auto(52);
+            case 4: return x.deal(77);
+            case 5: return x.tell(2, 1);
+            case 6: return x.setTrump(0);
+            case 7: return x.play(firstLegal(x));
+            case 8: return x.auto(2);
+            default: return x.auto(2);
+        }
+    }
+
+    /** What is best in the trick so far is undone, too. */
+    private void betterCardUndone() {
+        FadingTrumps x = game("blue 4 3 1 rule 0 trump 3 glow 1 fade 1 revive;hand 0 1;hand 1 2;hand 2 4;");
+        plays(x, 1);
+        x.saveSnapshot();
+        plays(x, 2);
+        due("the better card has it", x.winning(), 1);
+        x.undo();
+        due("undone", x.winning(), 0);
+        FadingTrumps y = game("blue 4 2 2 rule 0 trump 3 glow 1 fade 1 revive;hand 0 0 8;hand 1 12 4;");
+        plays(y, 0, 12);
+        due("the card that won", y.trick(0, 2), 12);
+        y.undo();
+        plays(y, 4);
+        due("the card that won instead", y.trick(0, 2), 0);
+        same("the suit that it passed to", lightOf(y), "0 1");
+        y.undo();
+        y.saveSnapshot();
+        plays(y, 12);
+        y.restoreSnapshot();
+        plays(y, 4);
+        due("the card that won behind restoreSnapshot", y.trick(0, 2), 0);
+    }
+
     // ---- 35 play
 
     private void play() {
@@ -261,24 +324,24 @@ final class OperationSentences extends SentenceTests {
             x.undo();
             due("undone", x.size(12), 0);
         });
-        doc.promise(35, "Returns the player who has the trick, if it is complete then, otherwise the number of players plus the player "
-            + "whose turn it is then;", () -> {
-                FadingTrumps x = game(THREE);
-                due("the next one", x.play(1), 3 + 2);
-                due("behind the last player the first one", x.play(4), 3 + 0);
-                due("a complete trick", x.play(0), 2);
-                due("the next one", x.play(9), 3 + 0);
-                due("the next one", x.play(5), 3 + 1);
-                due("the last trick of the hand", x.play(8), 0);
-                FadingTrumps y = game("blue 4 2 1 lead 1;hand 1 3;hand 0 2;");
-                due("of two players", y.play(3), 2 + 0);
-                due("of two players", y.play(2), 1);
-                FadingTrumps z = game("blue 4 4 1 lead 3;hand 3 0;hand 0 1;hand 1 2;hand 2 3;");
-                due("of four players", z.play(0), 4 + 0);
-                due("of four players", z.play(1), 4 + 1);
-                due("of four players", z.play(2), 4 + 2);
-                due("of four players", z.play(3), 2);
-            });
+        doc.promise(35, "Returns the player who has the trick, if it is complete then, otherwise the number of "
+            + "players plus the player whose turn it is then;", () -> {
+            FadingTrumps x = game(THREE);
+            due("the next one", x.play(1), 3 + 2);
+            due("behind the last player the first one", x.play(4), 3 + 0);
+            due("a complete trick", x.play(0), 2);
+            due("the next one", x.play(9), 3 + 0);
+            due("the next one", x.play(5), 3 + 1);
+            due("the last trick of the hand", x.play(8), 0);
+            FadingTrumps y = game("blue 4 2 1 lead 1;hand 1 3;hand 0 2;");
+            due("of two players", y.play(3), 2 + 0);
+            due("of two players", y.play(2), 1);
+            FadingTrumps z = game("blue 4 4 1 lead 3;hand 3 0;hand 0 1;hand 1 2;hand 2 3;");
+            due("of four players", z.play(0), 4 + 0);
+            due("of four players", z.play(1), 4 + 1);
+            due("of four players", z.play(2), 4 + 2);
+            due("of four players", z.play(3), 2);
+        });
         doc.promise(35, "-2 if the hand is over,", () -> {
             FadingTrumps x = game(THREE);
             x.auto(52);
@@ -334,18 +397,18 @@ final class OperationSentences extends SentenceTests {
     }
 
     private void auto() {
-        doc.promise(36, "Operation: cards are played, each by the player whose turn it is, until so many were played or the hand is "
-            + "over:", () -> {
-                same("all", autoOf(THREE, 6), "1 4 0 9 5 8");
-                same("more than there are", autoOf(THREE, 7), "1 4 0 9 5 8");
-                same("the most", autoOf(THREE, 52), "1 4 0 9 5 8");
-                same("one", autoOf(THREE, 1), "1");
-                FadingTrumps x = game(THREE);
-                x.auto(52);
-                due("not into the next hand", x.size(13), 1);
-                FadingTrumps y = game("blue 13 4 13;");
-                due("all of the most", y.auto(52), 52);
-            });
+        doc.promise(36, "Operation: cards are played, each by the player whose turn it is, until so many were played "
+            + "or the hand is over:", () -> {
+            same("all", autoOf(THREE, 6), "1 4 0 9 5 8");
+            same("more than there are", autoOf(THREE, 7), "1 4 0 9 5 8");
+            same("the most", autoOf(THREE, 52), "1 4 0 9 5 8");
+            same("one", autoOf(THREE, 1), "1");
+            FadingTrumps x = game(THREE);
+            x.auto(52);
+            due("not into the next hand", x.size(13), 1);
+            FadingTrumps y = game("blue 13 4 13;");
+            due("all of the most", y.auto(52), 52);
+        });
         doc.promise(36, "who leads plays the card with the greatest power, of several the smallest;", () -> {
             same("the highest", autoOf("blue 4 2 3;hand 0 0 2 5;hand 1 12 13 15;", 1), "2");
             same("of several the smallest", autoOf("blue 4 2 3;hand 0 15 7 3;", 1), "3");
@@ -354,30 +417,35 @@ final class OperationSentences extends SentenceTests {
             same("as much power as a larger card", autoOf("blue 4 2 2 trump 0 glow 3;hand 0 0 15;", 1), "0");
             same("the lowest, if it is the only one", autoOf("blue 4 2 1;hand 0 0;", 1), "0");
         });
-        doc.promise(36, "others, of the cards that they may play and that would be the best one of the trick, the one with the least "
-            + "power, of several the smallest;", () -> {
-                same("the least that is enough", autoOf("blue 4 2 4;hand 0 1 4 5 8;hand 1 0 2 3 7;", 2), "1 2");
-                same("of what they may play", autoOf("blue 4 2 4 rule 1 trump 1;hand 0 2 8 9 12;hand 1 0 3 4 5;", 2), "2 3");
-                same("a trump", autoOf("blue 4 2 3 rule 0 trump 1 glow 9;hand 0 2 8 9;hand 1 5 4 12;", 2), "2 4");
-                same("a trump with less power than of the suit led",
-                    autoOf("blue 4 2 3 rule 0 trump 1 glow 1;hand 0 1 8 12;hand 1 3 5 6;", 2), "1 5");
-                same("of several the smallest", autoOf("blue 4 2 3 rule 0 trump 1 glow 2;hand 0 1 0 8;hand 1 2 4 11;", 2), "1 2");
-                same("of several the smallest, a trump", autoOf("blue 4 2 3 rule 0 trump 0 glow 2;hand 0 5 4 8;hand 1 0 6 11;", 2),
-                    "5 0");
-                same("better than all so far", autoOf("blue 4 3 2;hand 0 1 4;hand 1 2 8;hand 2 3 0;", 3), "1 2 3");
-            });
-        doc.promise(36, "without such a one, of those that they may play, the one with the least rank, of several the smallest.", () -> {
+        doc.promise(36, "others, of the cards that they may play and that would be the best one of the trick, the one "
+            + "with the least power, of several the smallest;", () -> {
+            same("the least that is enough", autoOf("blue 4 2 4;hand 0 1 4 5 8;hand 1 0 2 3 7;", 2), "1 2");
+            same("of what they may play", autoOf("blue 4 2 4 rule 1 trump 1;hand 0 2 8 9 12;hand 1 0 3 4 5;", 2),
+                "2 3");
+            same("a trump", autoOf("blue 4 2 3 rule 0 trump 1 glow 9;hand 0 2 8 9;hand 1 5 4 12;", 2), "2 4");
+            same("a trump with less power than of the suit led",
+                autoOf("blue 4 2 3 rule 0 trump 1 glow 1;hand 0 1 8 12;hand 1 3 5 6;", 2), "1 5");
+            same("of several the smallest",
+                autoOf("blue 4 2 3 rule 0 trump 1 glow 2;hand 0 1 0 8;hand 1 2 4 11;", 2), "1 2");
+            same("of several the smallest, a trump",
+                autoOf("blue 4 2 3 rule 0 trump 0 glow 2;hand 0 5 4 8;hand 1 0 6 11;", 2), "5 0");
+            same("better than all so far", autoOf("blue 4 3 2;hand 0 1 4;hand 1 2 8;hand 2 3 0;", 3), "1 2 3");
+        });
+        doc.promise(36, "without such a one, of those that they may play, the one with the least rank, of several the "
+            + "smallest.", () -> {
             same("of the suit led", autoOf("blue 4 2 4;hand 0 3 4 5 8;hand 1 1 2 0 12;", 2), "3 0");
             same("the least rank of all", autoOf("blue 4 2 4;hand 0 3 4 5 8;hand 1 7 9 11 14;", 2), "3 9");
             same("of several the smallest", autoOf("blue 4 2 4;hand 0 3 4 5 8;hand 1 7 13 11 9;", 2), "3 9");
-            same("as much power is not enough", autoOf("blue 4 2 2 rule 0 trump 1 glow 1;hand 0 3 8;hand 1 6 12;", 2), "3 12");
-            same("the rank, not the power", autoOf("blue 4 2 2 rule 0 trump 1 glow 1;hand 0 3 8;hand 1 4 13;", 2), "3 4");
+            same("as much power is not enough", autoOf("blue 4 2 2 rule 0 trump 1 glow 1;hand 0 3 8;hand 1 6 12;", 2),
+                "3 12");
+            same("the rank, not the power", autoOf("blue 4 2 2 rule 0 trump 1 glow 1;hand 0 3 8;hand 1 4 13;", 2),
+                "3 4");
         });
         doc.promise(36, "- `cards`: 1 to 52", () -> {
             due("the least", game(THREE).auto(1), 1);
             due("the most", game("blue 13 4 13;").auto(52), 52);
         });
-        doc.promise(36, "Returns how many were played; " + RETURNS_OVER, () -> {
+        doc.promise(36, "Returns how many were played; -2 if the hand is over.", () -> {
             FadingTrumps x = game(THREE);
             due("5 of 6", x.auto(5), 5);
             due("1 of 6", x.auto(5), 1);
@@ -462,22 +530,23 @@ final class OperationSentences extends SentenceTests {
     // ---- 38 deal
 
     private void deal() {
-        doc.promise(38, "Operation: a new hand begins: all cards are dealt, nobody told, nobody is known to lack a suit;", this::newHand);
-        doc.promise(38, "LEAD is the player behind the one who led the first trick of the hand before (behind the last one the player "
-            + "0).", () -> {
-                for (int players = 2; players <= 4; players++) {
-                    for (int lead = 0; lead < players; lead++) {
-                        FadingTrumps x = game("blue 4 " + players + " 3 lead " + lead + ";");
-                        for (int hand = 1; hand <= 5; hand++) {
-                            x.auto(52);
-                            int due = (lead + hand) % players;
-                            due("deal, whoever had the last trick", x.deal(hand), due);
-                            due("whose turn it is", x.size(9), due);
-                            due("who leads", x.size(10), due);
-                        }
+        doc.promise(38, "Operation: a new hand begins: all cards are dealt, nobody told, nobody is known to lack a "
+            + "suit;", this::newHand);
+        doc.promise(38, "LEAD is the player behind the one who led the first trick of the hand before (behind the "
+            + "last one the player 0).", () -> {
+            for (int players = 2; players <= 4; players++) {
+                for (int lead = 0; lead < players; lead++) {
+                    FadingTrumps x = game("blue 4 " + players + " 3 lead " + lead + ";");
+                    for (int hand = 1; hand <= 5; hand++) {
+                        x.auto(52);
+                        int due = (lead + hand) % players;
+                        due("deal, whoever had the last trick", x.deal(hand), due);
+                        due("whose turn it is", x.size(9), due);
+                        due("who leads", x.size(10), due);
                     }
                 }
-            });
+            }
+        });
         doc.promise(38, "The trump that was told is that of the text or of the latest setTrump.", this::trumpOfNewHand);
         doc.promise(38, "- `seed`: 0 to 99999", () -> {
             for (int seed : new int[] {0, 1, 99998, 99999}) {
@@ -726,18 +795,18 @@ final class OperationSentences extends SentenceTests {
     // ---- 43, 44: format, formattedByte
 
     private void format() {
-        doc.promise(43, "Formats the hand of a player as text: its cards in ascending order, the letter of the suit (s, e, i, a for sky, "
-            + "sea, ink, ash) and the rank each, with ' ' between two;", () -> {
-                same("all suits", formatOf(game("blue 13 2 4;hand 1 51 0 26 25;"), 1), "s1 e13 i1 a13");
-                same("the first and the last card of each suit",
-                    formatOf(game("blue 4 2 8;hand 0 15 12 11 8 7 4 3 0;"), 0), "s1 s4 e1 e4 i1 i4 a1 a4");
-                same("one card", formatOf(game("blue 4 2 1;hand 1 15;"), 1), "a4");
-                FadingTrumps x = game("blue 4 2 3;hand 0 1 6 11;");
-                plays(x, 6);
-                same("without a card that was played", formatOf(x, 0), "s2 i4");
-                plays(x, firstLegal(x));
-                due("the same length once more", x.format(0), 5);
-            });
+        doc.promise(43, "Formats the hand of a player as text: its cards in ascending order, the letter of the suit "
+            + "(s, e, i, a for sky, sea, ink, ash) and the rank each, with ' ' between two;", () -> {
+            same("all suits", formatOf(game("blue 13 2 4;hand 1 51 0 26 25;"), 1), "s1 e13 i1 a13");
+            same("the first and the last card of each suit",
+                formatOf(game("blue 4 2 8;hand 0 15 12 11 8 7 4 3 0;"), 0), "s1 s4 e1 e4 i1 i4 a1 a4");
+            same("one card", formatOf(game("blue 4 2 1;hand 1 15;"), 1), "a4");
+            FadingTrumps x = game("blue 4 2 3;hand 0 1 6 11;");
+            plays(x, 6);
+            same("without a card that was played", formatOf(x, 0), "s2 i4");
+            plays(x, firstLegal(x));
+            due("the same length once more", x.format(0), 5);
+        });
         doc.promise(43, "'-' without cards.", () -> {
             FadingTrumps x = game("blue 4 2 1;");
             x.auto(1);
@@ -770,32 +839,32 @@ final class OperationSentences extends SentenceTests {
     }
 
     private void formattedByte() {
-        doc.promise(44, "Returns the byte at index of the text of the most recent call of format, as it was then (also behind load, undo "
-            + "and restoreSnapshot);", () -> {
-                FadingTrumps x = game("blue 13 2 3;hand 0 51 9 0;");
-                x.format(0);
-                String text = "s1 s10 a13";
-                for (int i = 0; i < text.length(); i++) {
-                    due("the byte " + i, x.formattedByte(i), text.charAt(i));
-                }
-                x.saveSnapshot();
-                x.play(51);
-                same("behind a card", Check.shownText(x, 10), text);
-                x.undo();
-                same("behind undo", Check.shownText(x, 10), text);
-                x.format(1);
-                String other = Check.shownText(x, x.format(1));
-                x.restoreSnapshot();
-                same("behind restoreSnapshot", Check.shownText(x, other.length()), other);
-                noSuch("format(2)", () -> x.format(2));
-                same("behind a call that throws", Check.shownText(x, other.length()), other);
-                Check.load(x, "blue 4 2");
-                same("behind a load with an error", Check.shownText(x, other.length()), other);
-                Check.load(x, "blue 4 2 1;");
-                same("behind load", Check.shownText(x, other.length()), other);
-                x.format(0);
-                due("a later, shorter text", x.formattedByte(2), NONE);
-            });
+        doc.promise(44, "Returns the byte at index of the text of the most recent call of format, as it was then "
+            + "(also behind load, undo and restoreSnapshot);", () -> {
+            FadingTrumps x = game("blue 13 2 3;hand 0 51 9 0;");
+            x.format(0);
+            String text = "s1 s10 a13";
+            for (int i = 0; i < text.length(); i++) {
+                due("the byte " + i, x.formattedByte(i), text.charAt(i));
+            }
+            x.saveSnapshot();
+            x.play(51);
+            same("behind a card", Check.shownText(x, 10), text);
+            x.undo();
+            same("behind undo", Check.shownText(x, 10), text);
+            x.format(1);
+            String other = Check.shownText(x, x.format(1));
+            x.restoreSnapshot();
+            same("behind restoreSnapshot", Check.shownText(x, other.length()), other);
+            noSuch("format(2)", () -> x.format(2));
+            same("behind a call that throws", Check.shownText(x, other.length()), other);
+            Check.load(x, "blue 4 2");
+            same("behind a load with an error", Check.shownText(x, other.length()), other);
+            Check.load(x, "blue 4 2 1;");
+            same("behind load", Check.shownText(x, other.length()), other);
+            x.format(0);
+            due("a later, shorter text", x.formattedByte(2), NONE);
+        });
         doc.promise(44, "NONE if index is out of range or there was no such call.", () -> {
             FadingTrumps x = game("blue 4 2 1;hand 0 15;");
             for (int index : new int[] {-1, 0, 1, 2, 50, MIN, MAX}) {
@@ -846,7 +915,8 @@ final class OperationSentences extends SentenceTests {
             x.undo();
             same("then the one before", x.size(3) + " " + x.size(7), "1 2");
         });
-        doc.promise(46, "Returns the number of operations that can still be undone; NONE if there was nothing to undo.", () -> {
+        doc.promise(46, "Returns the number of operations that can still be undone; NONE if there was nothing to undo.",
+            () -> {
             FadingTrumps x = game("blue 4 2 3;");
             changesNothing("undo of nothing", x, () -> due("undo of nothing", x.undo(), NONE));
             x.setFade(5);

@@ -3,10 +3,6 @@ import java.util.List;
 
 /** The section 7 of the terms, and the promise 49: queries. */
 final class QuerySentences extends SentenceTests {
-    /** Player 0: sky 1 and sea 2; player 1: sky 2 and ink 1; player 2: sea 1 and ink 2. Sea is trump; sky 2 was led. */
-    private static final String THREE =
-        "blue 4 3 2 rule 1 trump 1 glow 3 fade 2 lead 1;hand 0 0 5;hand 1 1 8;hand 2 4 9;";
-
     QuerySentences(Doc doc, Check check) {
         super(doc, check);
     }
@@ -19,6 +15,7 @@ final class QuerySentences extends SentenceTests {
         query();
     }
 
+    /** The game of three players in its first trick: the player 1 led sky 2. */
     private static FadingTrumps three() {
         FadingTrumps x = game(THREE);
         x.play(1);
@@ -66,6 +63,11 @@ final class QuerySentences extends SentenceTests {
         failsAs("many card;<5", 1, 9);
         failsAs("many card<5;", 1, 11);
         failsAs("many Card<5", 1, 5);
+        String words = "many card<5 and suit<9 or rank<9 and holder<5 and played<9 or power<9 and not legal<9 or "
+            + "trump<9";
+        holds(three(), words, 16);
+        eachLetter(words, this::failsAs);
+        eachLetter("first card<5", this::failsAs);
         for (int sign = 0; sign < 256; sign++) {
             String byteOf = String.valueOf((char) sign);
             if (sign == 32 || sign == 10) {
@@ -102,10 +104,10 @@ final class QuerySentences extends SentenceTests {
         doc.term(7, "test: conjunction ('or' conjunction)*", this::disjunctions);
         doc.term(7, "conjunction: factor ('and' factor)*", this::conjunctions);
         doc.term(7, "factor: 'not' factor | '(' test ')' | value ('<' | '=' | '>') value", this::factors);
-        doc.term(7, "value: a number (0 to 9999), or one of these properties of a card: 'card' (its number), 'suit', 'rank', "
-            + "'holder' (the player who has it in their hand; 9 if nobody), 'played' (1 or 0), 'power' (as power), 'legal' (1 if "
-            + "the player whose turn it is may play it, otherwise 0), 'trump' (1 if its suit is the trump, otherwise 0)",
-            this::values);
+        doc.term(7, "value: a number (0 to 9999), or one of these properties of a card: 'card' (its number), 'suit', "
+            + "'rank', 'holder' (the player who has it in their hand; 9 if nobody), 'played' (1 or 0), 'power' (as "
+            + "power), 'legal' (1 if the player whose turn it is may play it, otherwise 0), 'trump' (1 if its suit is "
+            + "the trump, otherwise 0)", this::values);
     }
 
     private void heads() {
@@ -284,8 +286,8 @@ final class QuerySentences extends SentenceTests {
     // ---- 7 the depth
 
     private void depth() {
-        doc.term(7, "Error codes are 1 and 2 of section 6, and 3 for a 'not' or '(' that would be the seventh one open at the same "
-            + "time.", this::seventh);
+        doc.term(7, "Error codes are 1 and 2 of section 6, and 3 for a 'not' or '(' that would be the seventh one "
+            + "open at the same time.", this::seventh);
         doc.term(7, "A 'not' is open until the end of its factor.", this::openNots);
     }
 
@@ -342,15 +344,15 @@ final class QuerySentences extends SentenceTests {
     // ---- 49 query
 
     private void query() {
-        doc.promise(49, "Reads the first bytes of the buffer as a query and evaluates it for every card in ascending order.",
-            this::readsFirstBytes);
+        doc.promise(49, "Reads the first bytes of the buffer as a query and evaluates it for every card in ascending "
+            + "order.", this::readsFirstBytes);
         doc.promise(49, "The buffer is empty afterwards, also after an error.", this::emptyAfterwards);
         doc.promise(49, "- `length`: number of bytes to read, at most 200", this::lengths);
         doc.promise(49, "Returns for 'many' the number of cards for which the test holds;", this::manyCards);
         doc.promise(49, "for 'first' the smallest such card, or NONE;", this::firstCards);
         doc.promise(49, "HIDDEN minus the error code if the text has an error.", this::errorResults);
-        doc.promise(49, "Throws `IllegalArgumentException` if length is negative, greater than 200, or greater than the number of "
-            + "bytes in the buffer (nothing changes)", this::wrongLengths);
+        doc.promise(49, "Throws `IllegalArgumentException` if length is negative, greater than 200, or greater than "
+            + "the number of bytes in the buffer (nothing changes)", this::wrongLengths);
     }
 
     private void readsFirstBytes() {

@@ -2,14 +2,17 @@ import java.util.ArrayList;
 import java.util.List;
 
 /**
- * What the tests of the document's sentences share: games, wrong arguments, all answers of an object as one text. (To ask
- * for all takes more than the 512 calls for which an object is promised to answer; the class has no such end.)
+ * What the tests of the document's sentences share: games, wrong arguments, all answers of an object as one text. (To
+ * ask for all takes more than the 512 calls for which an object is promised to answer; the class has no such end.)
  */
 abstract class SentenceTests {
     static final int NONE = FadingTrumps.NONE;
     static final int HIDDEN = FadingTrumps.HIDDEN;
     static final int MIN = Integer.MIN_VALUE;
     static final int MAX = Integer.MAX_VALUE;
+
+    /** Player 0: sky 1 and sea 2; player 1: sky 2 and ink 1; player 2: sea 1 and ink 2. Sea is trump. */
+    static final String THREE = "blue 4 3 2 rule 1 trump 1 glow 3 fade 2 lead 1;hand 0 0 5;hand 1 1 8;hand 2 4 9;";
 
     final Doc doc;
     final Check check;
@@ -20,6 +23,10 @@ abstract class SentenceTests {
 
     interface Told {
         int to(FadingTrumps game);
+    }
+
+    interface Failing {
+        void as(String text, int code, int at);
     }
 
     SentenceTests(Doc doc, Check check) {
@@ -60,7 +67,8 @@ abstract class SentenceTests {
         for (int i = 0; i < count; i++) {
             int number = i;
             long answer = Check.of(() -> asked.of(number));
-            yes(what + "(" + i + ") answers", answer != Check.NO_SUCH && answer != Check.ILLEGAL && answer != Check.OTHER);
+            yes(what + "(" + i + ") answers", answer != Check.NO_SUCH && answer != Check.ILLEGAL
+                && answer != Check.OTHER);
         }
         for (int wrong : new int[] {-1, -2, count, count + 1, MIN, MAX, 1 << 30, 64 + count - 1, -count}) {
             if (wrong < 0 || wrong >= count) {
@@ -111,6 +119,22 @@ abstract class SentenceTests {
         fails(before + "-" + least + behind, 1, before.length());
         if (!behind.trim().matches("\\d.*")) {
             fails(before + behind, 1, before.length() + blanks(behind));
+        }
+    }
+
+    /** Each letter of each word of a text counts, and no word may be longer or shorter. */
+    void eachLetter(String text, Failing fails) {
+        int start = 0;
+        for (int i = 0; i < text.length(); i++) {
+            if (!Character.isLetter(text.charAt(i))) {
+                continue;
+            }
+            if (i == 0 || !Character.isLetter(text.charAt(i - 1))) {
+                start = i;
+            }
+            fails.as(text.substring(0, i) + "q" + text.substring(i + 1), 1, start);
+            fails.as(text.substring(0, i) + text.substring(i + 1), 1, start);
+            fails.as(text.substring(0, i) + text.charAt(i) + text.substring(i), 1, start);
         }
     }
 
@@ -188,11 +212,13 @@ abstract class SentenceTests {
             }
         }
         for (int card = 0; card < 4 * x.size(0); card++) {
-            b.append(" card ").append(x.holder(card)).append(' ').append(x.power(card)).append(x.isMaster(card) ? "m" : "");
-            b.append(x.wouldLead(card) ? "w" : "").append(x.could(0, card) ? "c" : "");
+            b.append(" card ").append(x.holder(card)).append(' ').append(x.power(card));
+            b.append(x.isMaster(card) ? "m" : "").append(x.wouldLead(card) ? "w" : "");
+            b.append(x.could(0, card) ? "c" : "");
         }
         for (int i = 0; i < x.size(12); i++) {
-            b.append(" played ").append(x.played(i, 0)).append(' ').append(x.played(i, 1)).append(' ').append(x.played(i, 2));
+            b.append(" played ").append(x.played(i, 0)).append(' ').append(x.played(i, 1)).append(' ');
+            b.append(x.played(i, 2));
         }
         for (int i = 0; i < x.size(11); i++) {
             b.append(" trick");

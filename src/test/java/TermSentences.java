@@ -24,14 +24,14 @@ final class TermSentences extends SentenceTests {
         doc.term(1, "Cards are numbered from 0: a card has the suit card / RANKS and the rank card % RANKS + 1.",
             this::numbers);
         doc.term(1, "There are 2 to 4 players, numbered from 0.", this::players);
-        doc.term(1, "In a hand each of them gets HELD cards (1 to 13; all together at most as many as there are); the other "
-            + "cards lie aside.", this::heldCards);
+        doc.term(1, "In a hand each of them gets HELD cards (1 to 13; all together at most as many as there are); the "
+            + "other cards lie aside.", this::heldCards);
         doc.term(1, "A hand is over when all of these cards have been played.", this::handIsOver);
-        doc.term(1, "Cards are dealt by a seed (0 to 99999): the cards lie in a row, by their numbers; x is the seed at "
-            + "first; for each place k from the last one down to 1, x becomes (x * 1103 + 12345) modulo 100003, and the "
-            + "card at the place k is exchanged with the one at the place x modulo (k + 1).", this::seeds);
-        doc.term(1, "Then the cards from the place 0 on go to the players in turn, one each, beginning with the player 0.",
-            this::handedOut);
+        doc.term(1, "Cards are dealt by a seed (0 to 99999): the cards lie in a row, by their numbers; x is the seed "
+            + "at first; for each place k from the last one down to 1, x becomes (x * 1103 + 12345) modulo 100003, "
+            + "and the card at the place k is exchanged with the one at the place x modulo (k + 1).", this::seeds);
+        doc.term(1, "Then the cards from the place 0 on go to the players in turn, one each, beginning with the "
+            + "player 0.", this::handedOut);
     }
 
     private void suits() {
@@ -159,7 +159,8 @@ final class TermSentences extends SentenceTests {
         int[] seeds = {0, 1, 2, 7, 90, 12345, 45678, 99997, 99998, 99999};
         for (int seed : seeds) {
             for (int ranks = 4; ranks <= 13; ranks++) {
-                same("the hands of the seed " + seed, handsOf(game("blue " + ranks + " 4 " + ranks + " seed " + seed + ";")),
+                String text = "blue " + ranks + " 4 " + ranks + " seed " + seed + ";";
+                same("the hands of " + text, handsOf(game(text)),
                     dealt(rowOf(seed, 4 * ranks), 4, ranks));
             }
         }
@@ -190,12 +191,12 @@ final class TermSentences extends SentenceTests {
 
     private void trumps() {
         doc.term(2, "There is a trump suit or none, and a glow (0 to 30).", this::trumpAndGlow);
-        doc.term(2, "When a hand begins, the trump is the one that was told (or none), and the glow is GLOW (0 to 30); "
-            + "without a trump it is 0.", this::atTheBeginning);
+        doc.term(2, "When a hand begins, the trump is the one that was told (or none), and the glow is GLOW (0 to "
+            + "30); without a trump it is 0.", this::atTheBeginning);
         doc.term(2, "Behind each trick the glow becomes FADE (0 to 9) less, but not less than 0;", this::fades);
         doc.term(2, "if it was above 0 and is 0 then, there is no trump any more;", this::endsAtZero);
-        doc.term(2, "but if REVIVE is on, the suit of the card that won this trick is the trump then, with the glow GLOW.",
-            this::revives);
+        doc.term(2, "but if REVIVE is on, the suit of the card that won this trick is the trump then, with the glow "
+            + "GLOW.", this::revives);
     }
 
     private void trumpAndGlow() {
@@ -334,13 +335,13 @@ final class TermSentences extends SentenceTests {
     // ---- 3 tricks
 
     private void tricks() {
-        doc.term(3, "The player who leads plays a card, then the others in turn (behind the last player comes the player "
-            + "0).", this::turns);
+        doc.term(3, "The player who leads plays a card, then the others in turn (behind the last player comes the "
+            + "player 0).", this::turns);
         doc.term(3, "The suit of the first card is led.", this::suitLed);
-        doc.term(3, "The power of a card in a trick is its rank plus the glow, if its suit is the trump; its rank, if its "
-            + "suit is led and is not the trump; otherwise 0.", this::powers);
-        doc.term(3, "The card with the greatest power wins, of several the one played first; who played it has the trick, "
-            + "and leads the next one.", this::winners);
+        doc.term(3, "The power of a card in a trick is its rank plus the glow, if its suit is the trump; its rank, if "
+            + "its suit is led and is not the trump; otherwise 0.", this::powers);
+        doc.term(3, "The card with the greatest power wins, of several the one played first; who played it has the "
+            + "trick, and leads the next one.", this::winners);
         doc.term(3, "The first trick is led by LEAD (a player).", this::firstLead);
     }
 
@@ -459,12 +460,12 @@ final class TermSentences extends SentenceTests {
     private void rules() {
         doc.term(3, "The rule tells what one who does not lead may play: 0 any card.", this::ruleAny);
         doc.term(3, "1 a card of the suit that is led, if they have one; otherwise any.", this::ruleFollow);
-        doc.term(3, "2 as with 1, but if they have cards of the suit that is led with more power than the greatest one in "
-            + "the trick so far, one of these.", this::ruleHigher);
-        doc.term(3, "3 as with 1, but if they have no card of the suit that is led, and have one of the trump, one of the "
-            + "trump.", this::ruleTrump);
-        doc.term(3, "A player is known to lack a suit in a hand if, with a rule other than 0 as that card was played, they "
-            + "played a card of another suit in a trick in which it was led.", this::knownLacks);
+        doc.term(3, "2 as with 1, but if they have cards of the suit that is led with more power than the greatest "
+            + "one in the trick so far, one of these.", this::ruleHigher);
+        doc.term(3, "3 as with 1, but if they have no card of the suit that is led, and have one of the trump, one of "
+            + "the trump.", this::ruleTrump);
+        doc.term(3, "A player is known to lack a suit in a hand if, with a rule other than 0 as that card was played, "
+            + "they played a card of another suit in a trick in which it was led.", this::knownLacks);
     }
 
     /** What player 1 may play behind the card that player 0 leads. */
@@ -476,8 +477,8 @@ final class TermSentences extends SentenceTests {
 
     /** What player 2 may play behind two cards. */
     private String answeringTwo(String head, int led, int second, String hand) {
-        FadingTrumps x = game("blue 4 3 3 " + head + ";hand 0 9 10 " + led + ";hand 1 12 13 " + second + ";hand 2 " + hand
-            + ";");
+        FadingTrumps x = game("blue 4 3 3 " + head + ";hand 0 9 10 " + led + ";hand 1 12 13 " + second
+            + ";hand 2 " + hand + ";");
         plays(x, led, second);
         return legalOf(x);
     }
@@ -579,11 +580,13 @@ final class TermSentences extends SentenceTests {
     // ---- 4 points
 
     private void points() {
-        doc.term(4, "Ahead of the first card of a hand, players can tell how many tricks they will have.", this::tellings);
-        doc.term(4, "The result of a player in a hand: if they told, 10 plus what they told, if they have just so many "
-            + "tricks, otherwise minus the difference;", this::resultsOfTold);
+        doc.term(4, "Ahead of the first card of a hand, players can tell how many tricks they will have.",
+            this::tellings);
+        doc.term(4, "The result of a player in a hand: if they told, 10 plus what they told, if they have just so "
+            + "many tricks, otherwise minus the difference;", this::resultsOfTold);
         doc.term(4, "if they did not tell, the number of their tricks.", this::resultsOfSilent);
-        doc.term(4, "When the hand is over, the results come to the points of the players (0 at first).", this::pointsCome);
+        doc.term(4, "When the hand is over, the results come to the points of the players (0 at first).",
+            this::pointsCome);
     }
 
     private void tellings() {
@@ -602,8 +605,8 @@ final class TermSentences extends SentenceTests {
 
     /** The player 0 has all tricks of the longest hand. */
     private FadingTrumps longest(String tells) {
-        FadingTrumps x = game("blue 13 2 13;hand 0 0 1 2 3 4 5 6 7 8 9 10 11 12;hand 1 13 14 15 16 17 18 19 20 21 22 23 24 25;"
-            + tells);
+        FadingTrumps x = game("blue 13 2 13;hand 0 0 1 2 3 4 5 6 7 8 9 10 11 12;"
+            + "hand 1 13 14 15 16 17 18 19 20 21 22 23 24 25;" + tells);
         x.auto(52);
         due("all tricks", x.tricks(0), 13);
         return x;
@@ -663,9 +666,9 @@ final class TermSentences extends SentenceTests {
     // ---- 5 sure tricks
 
     private void sure() {
-        doc.term(5, "The sure tricks of the player whose turn it is: how many of the present trick (if it is not complete) "
-            + "and of all later ones they can have, however the others play, if all know all hands, and all play as the "
-            + "rule lets.", this::sureTricks);
+        doc.term(5, "The sure tricks of the player whose turn it is: how many of the present trick (if it is not "
+            + "complete) and of all later ones they can have, however the others play, if all know all hands, and all "
+            + "play as the rule lets.", this::sureTricks);
     }
 
     private void sure(String text, int due) {
@@ -697,5 +700,31 @@ final class TermSentences extends SentenceTests {
         due("the last card of the hand", y.sure(), 1);
         plays(y, 2);
         due("behind the hand", y.sure(), NONE);
+        // one of the others gives a trick with their smallest card, and none with a larger one
+        sure("blue 4 2 2 lead 1;hand 0 1 4;hand 1 0 7;", 1);
+        sure("blue 4 2 3 rule 0;hand 0 2 5 10;hand 1 0 3 15;", 2);
+        for (int seed = 0; seed < 60; seed++) {
+            String rule = " rule " + seed % 4;
+            String revive = seed % 3 == 0 ? " revive" : "";
+            sureAsModel("blue 4 2 4" + rule + " trump 1 glow 3 fade 2" + revive + " seed " + seed + ";");
+            sureAsModel("blue 5 3 3" + rule + " trump 2 glow 4 fade 4" + revive + " seed " + seed + ";");
+            sureAsModel("blue 4 4 2" + rule + " seed " + seed + ";");
+        }
+    }
+
+    /** The model plays everything out, card by card. */
+    private void sureAsModel(String text) {
+        FadingTrumps x = game(text);
+        Model m = new Model();
+        for (int i = 0; i < text.length(); i += 20) {
+            m.feed(Check.words(text, i));
+        }
+        due("the model's load", m.load(text.length()), x.size(1) * x.size(2));
+        for (int played = 0; played < 4; played++) {
+            due("sure() behind " + played + " cards of " + text, x.sure(), m.sure());
+            due("sureCard() behind " + played + " cards of " + text, x.sureCard(), m.sureCard());
+            x.auto(1);
+            m.auto(1);
+        }
     }
 }

@@ -38,7 +38,7 @@ final class TextSentences extends SentenceTests {
             FadingTrumps x = new FadingTrumps();
             same("a new object", allOf(x), allOf(game("blue 9 2 5;")));
             same("its sizes", sizesOf(x), "9 2 5 1 -1 0 10 2 0 0 0 0 0 0");
-            // the row of the seed 0 begins 19 6 26 5 31 3 18 4 22 10 only if it was exchanged as the document tells
+            // the row of the seed 0 begins 22 14 26 13 20 15 19 4 31 3
             same("its hands", handsOf(x), TermSentences.dealt(TermSentences.rowOf(0, 36), 2, 5));
             same("its hands", handsOf(x), "19 20 22 26 31/3 4 13 14 15");
             due("nothing to undo", x.undo(), NONE);
@@ -52,8 +52,8 @@ final class TextSentences extends SentenceTests {
     // ---- 2 feed
 
     private void feed() {
-        doc.promise(2, "Appends 20 bytes to the buffer: the four bytes of each parameter, the most significant byte first.",
-            this::twentyBytes);
+        doc.promise(2, "Appends 20 bytes to the buffer: the four bytes of each parameter, the most significant byte "
+            + "first.", this::twentyBytes);
         doc.promise(2, "Returns the number of bytes in the buffer; NONE if it would exceed 500, and then nothing is "
             + "appended.", this::fullBuffer);
     }
@@ -101,10 +101,10 @@ final class TextSentences extends SentenceTests {
         doc.promise(3, "The buffer is empty afterwards, also after an error.", this::emptyAfterwards);
         doc.promise(3, "- `length`: number of bytes to read", this::lengths);
         doc.promise(3, "Returns the number of cards that are in hands;", this::cardsInHands);
-        doc.promise(3, "-10 minus the error code if the text has an error (then only the buffer and the error position "
-            + "change).", this::errorChangesNothing);
-        doc.promise(3, "Throws `IllegalArgumentException` if length is negative or greater than the number of bytes in the "
-            + "buffer (nothing changes)", this::wrongLengths);
+        doc.promise(3, "-10 minus the error code if the text has an error (then only the buffer and the error "
+            + "position change).", this::errorChangesNothing);
+        doc.promise(3, "Throws `IllegalArgumentException` if length is negative or greater than the number of bytes "
+            + "in the buffer (nothing changes)", this::wrongLengths);
     }
 
     /** A game of which nothing is as at first. */
@@ -200,8 +200,8 @@ final class TextSentences extends SentenceTests {
         String before = stateOf(x);
         String text = formatText(x);
         int undos = x.undoCount();
-        String[] wrong = {"", "blue 4 2 3", "blue 4 2 9;", "blue 9 2 3;hand 0 1;hand 1 1;", "blue 9 2 3 rule 0 trump 1 glow 2 "
-            + "fade 2 revive lead 1 seed 4;tell 1 2;hand 0 1 2 3;tell 1 1;"};
+        String[] wrong = {"", "blue 4 2 3", "blue 4 2 9;", "blue 9 2 3;hand 0 1;hand 1 1;",
+            "blue 9 2 3 rule 0 trump 1 glow 2 fade 2 revive lead 1 seed 4;tell 1 2;hand 0 1 2 3;tell 1 1;"};
         int[] codes = {1, 1, 2, 3, 3};
         for (int i = 0; i < wrong.length; i++) {
             due("load of '" + wrong[i] + "'", Check.load(x, wrong[i]), -10 - codes[i]);
@@ -237,8 +237,8 @@ final class TextSentences extends SentenceTests {
     // ---- 4 errorPosition
 
     private void errorPosition() {
-        doc.promise(4, "Returns the position of the error of the most recent call of load or query that read the buffer;",
-            this::latestPosition);
+        doc.promise(4, "Returns the position of the error of the most recent call of load or query that read the "
+            + "buffer;", this::latestPosition);
         doc.promise(4, "NONE if that call had no error, or there was no such call.", this::noPosition);
     }
 
@@ -286,8 +286,8 @@ final class TextSentences extends SentenceTests {
             due("an empty buffer", x.load(0), -11);
             due("load", Check.load(x, "blue 4 2 3;"), 6);
         });
-        doc.term(6, "Tokens: a word is a maximal run of the letters a to z; a number is a maximal run of digits (leading "
-            + "zeros are allowed); ; is a token.", this::words);
+        doc.term(6, "Tokens: a word is a maximal run of the letters a to z; a number is a maximal run of digits "
+            + "(leading zeros are allowed); ; is a token.", this::words);
         doc.term(6, "The bytes 32 and 10 separate tokens and are otherwise ignored.", this::separators);
         doc.term(6, "Every other byte is an invalid token.", this::otherBytes);
     }
@@ -312,25 +312,28 @@ final class TextSentences extends SentenceTests {
         reads("blue 4 2 3 seed 90909;");
         reads("blue 4 2 3 seed 12345;");
         reads("blue 4 2 3 seed 67890;");
-        same("the seed 67890", handsOf(game("blue 4 2 3 seed 67890;")), TermSentences.dealt(TermSentences.rowOf(67890, 16),
-            2, 3));
+        same("the seed 67890", handsOf(game("blue 4 2 3 seed 67890;")),
+            TermSentences.dealt(TermSentences.rowOf(67890, 16), 2, 3));
         same("leading zeros", handsOf(game("blue 0004 02 003 seed 0000000000000000000000000000000067890;")),
             handsOf(game("blue 4 2 3 seed 67890;")));
         reads("blue 4 2 3 seed 00000;");
         fails("blue 4 2 3;;", 1, 11);
         fails("blue 4 2;3;", 1, 8);
         fails("blue 4 2 3:", 1, 10);
+        String text = "blue 4 2 3 rule 2 trump 1 glow 3 fade 1 revive lead 1 seed 9;hand 0 1 2;tell 1 0;";
+        reads(text);
+        eachLetter(text, this::fails);
     }
 
     private void separators() {
-        String[] tokens = {"blue", "4", "2", "3", "rule", "2", "trump", "1", "glow", "3", "fade", "1", "revive", "lead", "1",
-            "seed", "9", ";", "hand", "0", "1", "2", ";", "tell", "1", "0", ";"};
+        String[] tokens = {"blue", "4", "2", "3", "rule", "2", "trump", "1", "glow", "3", "fade", "1", "revive",
+            "lead", "1", "seed", "9", ";", "hand", "0", "1", "2", ";", "tell", "1", "0", ";"};
         String one = stateOf(game(String.join(" ", tokens)));
         same("blanks", stateOf(game("   " + String.join("  ", tokens) + "   ")), one);
         same("new lines", stateOf(game("\n" + String.join("\n", tokens) + "\n\n")), one);
         same("both", stateOf(game("\n \n" + String.join("\n ", tokens) + " \n")), one);
-        same("none but where they must be", stateOf(game("blue4 2 3rule2trump1glow3fade1revive lead1seed9;hand0 1 2;tell1 0;")),
-            one);
+        same("none but where they must be",
+            stateOf(game("blue4 2 3rule2trump1glow3fade1revive lead1seed9;hand0 1 2;tell1 0;")), one);
         fails("bl ue 4 2 3;", 1, 0);
         fails("bl\nue 4 2 3;", 1, 0);
         fails("blue 1 3 2 1;", 2, 5);
@@ -365,13 +368,13 @@ final class TextSentences extends SentenceTests {
     // ---- 6 the grammar
 
     private void grammar() {
-        doc.term(6, "Grammar (quoted = literal, * = any number of times, brackets = optional, | = or; the ranges of numbers are "
-            + "those of the quantities):", this::ranges);
-        doc.term(6, "text: 'blue' RANKS players HELD ['rule' rule] ['trump' suit ['glow' GLOW] ['fade' FADE] ['revive']] "
-            + "['lead' LEAD] ['seed' seed] ';' (clause ';')*", this::heads);
+        doc.term(6, "Grammar (quoted = literal, * = any number of times, brackets = optional, | = or; the ranges of "
+            + "numbers are those of the quantities):", this::ranges);
+        doc.term(6, "text: 'blue' RANKS players HELD ['rule' rule] ['trump' suit ['glow' GLOW] ['fade' FADE] "
+            + "['revive']] ['lead' LEAD] ['seed' seed] ';' (clause ';')*", this::heads);
         doc.term(6, "clause: 'hand' player card card* | 'tell' player tricks", this::clauses);
-        doc.term(6, "The rule is 1, GLOW 10, FADE 2, LEAD 0 and the seed 0 without them; REVIVE is on only with 'revive'.",
-            this::withoutThem);
+        doc.term(6, "The rule is 1, GLOW 10, FADE 2, LEAD 0 and the seed 0 without them; REVIVE is on only with "
+            + "'revive'.", this::withoutThem);
     }
 
     private void ranges() {
@@ -390,7 +393,10 @@ final class TextSentences extends SentenceTests {
         reads("blue 4 3 3;hand 0 5 0;");
         reads("blue 4 3 3;hand 0 5 15;");
         fails("blue 4 3 3;hand 0 5 16;", 2, 20);
+        range("blue 4 2 3;tell ", 0, 1, " 1;");
         range("blue 4 3 3;tell ", 0, 2, " 1;");
+        range("blue 4 4 3;tell ", 0, 3, " 1;");
+        range("blue 4 4 3;hand ", 0, 3, " 5;");
         range("blue 4 3 3;tell 0 ", 0, 3, ";");
         range("blue 13 3 13;tell 0 ", 0, 13, ";");
     }
@@ -402,15 +408,20 @@ final class TextSentences extends SentenceTests {
             if (!trump && (choice & (4 + 8 + 16)) != 0) {
                 continue;
             }
-            String text = "blue 5 3 4" + part(choice, 1, " rule 3") + part(choice, 2, " trump 2") + part(choice, 4, " glow 7")
-                + part(choice, 8, " fade 5") + part(choice, 16, " revive") + part(choice, 32, " lead 2")
-                + part(choice, 64, " seed 77") + ";";
+            String text = "blue 5 3 4" + part(choice, 1, " rule 3") + part(choice, 2, " trump 2")
+                + part(choice, 4, " glow 7") + part(choice, 8, " fade 5") + part(choice, 16, " revive")
+                + part(choice, 32, " lead 2") + part(choice, 64, " seed 77") + ";";
             FadingTrumps x = game(text);
             int glow = (choice & 4) != 0 ? 7 : 10;
             int lead = (choice & 32) != 0 ? 2 : 0;
-            same("the sizes of " + text, sizesOf(x), "5 3 4 " + ((choice & 1) != 0 ? 3 : 1) + (trump ? " 2 " + glow : " -1 0") + " "
-                + glow + ((choice & 8) != 0 ? " 5" : " 2") + ((choice & 16) != 0 ? " 1 " : " 0 ") + lead + " " + lead + " 0 0 0");
-            same("the hands of " + text, handsOf(x), TermSentences.dealt(TermSentences.rowOf((choice & 64) != 0 ? 77 : 0, 20), 3, 4));
+            String rule = (choice & 1) != 0 ? "3" : "1";
+            String light = trump ? "2 " + glow : "-1 0";
+            String fade = (choice & 8) != 0 ? "5" : "2";
+            String revive = (choice & 16) != 0 ? "1" : "0";
+            same("the sizes of " + text, sizesOf(x), String.join(" ", "5 3 4", rule, light, String.valueOf(glow), fade,
+                revive, lead + " " + lead + " 0 0 0"));
+            same("the hands of " + text, handsOf(x),
+                TermSentences.dealt(TermSentences.rowOf((choice & 64) != 0 ? 77 : 0, 20), 3, 4));
         }
         otherOrders();
         cutTexts();
@@ -461,7 +472,8 @@ final class TextSentences extends SentenceTests {
 
     /** Wherever a text is cut it ends too early, but behind a ';'. */
     private void cutTexts() {
-        String text = "blue 4 2 3 rule 2 trump 1 glow 3 fade 1 revive lead 1 seed 9 ; hand 0 1 2 ; tell 1 0 ; hand 1 3 ;";
+        String text = "blue 4 2 3 rule 2 trump 1 glow 3 fade 1 revive lead 1 seed 9 ;"
+            + " hand 0 1 2 ; tell 1 0 ; hand 1 3 ;";
         for (int at = 0; at <= text.length(); at++) {
             if (at < text.length() && text.charAt(at) != ' ') {
                 continue;
@@ -525,13 +537,14 @@ final class TextSentences extends SentenceTests {
             due("one told", game("blue 4 3 2;hand 2 15;").holder(15), 2);
             due("the first card told", game("blue 4 3 2;hand 2 0;").holder(0), 2);
         });
-        doc.term(6, "Who has fewer than HELD cards told gets the first ones of those that nobody was told, in the order in "
-            + "which they lie behind the exchanges of the seed: the player 0 all that are lacking, then the player 1, and so "
-            + "on.", this::filledUp);
+        doc.term(6, "Who has fewer than HELD cards told gets the first ones of those that nobody was told, in the "
+            + "order in which they lie behind the exchanges of the seed: the player 0 all that are lacking, then the "
+            + "player 1, and so on.", this::filledUp);
         doc.term(6, "Without any 'hand' all cards are dealt as in section 1.", () -> {
             same("no clause", handsOf(game("blue 4 3 2 seed 7;")), "7 9/0 13/4 11");
             same("a clause without a hand", handsOf(game("blue 4 3 2 seed 7;tell 0 1;tell 2 0;")), "7 9/0 13/4 11");
-            same("one card that is the first one anyway", handsOf(game("blue 4 3 2 seed 7;hand 0 7;")), "7 13/4 9/0 11");
+            same("one card that is the first one anyway", handsOf(game("blue 4 3 2 seed 7;hand 0 7;")),
+                "7 13/4 9/0 11");
         });
     }
 
@@ -581,14 +594,15 @@ final class TextSentences extends SentenceTests {
     // ---- 6 error codes
 
     private void errors() {
-        doc.term(6, "Error codes. The first error along the text is reported, at the first byte of its token;", this::firstErrors);
+        doc.term(6, "Error codes. The first error along the text is reported, at the first byte of its token;",
+            this::firstErrors);
         doc.term(6, "if several codes apply to one token, the smallest one.", this::smallestCodes);
-        doc.term(6, "1 The token is invalid or not allowed here, or the text ends too early (the position is then the length of "
-            + "the text).", this::notAllowed);
+        doc.term(6, "1 The token is invalid or not allowed here, or the text ends too early (the position is then the "
+            + "length of the text).", this::notAllowed);
         doc.term(6, "2 A number that is out of range (HELD also if there are not enough cards; tricks are 0 to HELD).",
             this::outOfRange);
-        doc.term(6, "3 A card that was told already; a card of a player by which they would have more than HELD; a player who "
-            + "told already.", this::toldTwice);
+        doc.term(6, "3 A card that was told already; a card of a player by which they would have more than HELD; a "
+            + "player who told already.", this::toldTwice);
     }
 
     private void firstErrors() {
@@ -602,7 +616,8 @@ final class TextSentences extends SentenceTests {
         fails("blue 4 2 3 seeds 1;", 1, 11);
         fails("blue 4 2 3 seed 1000000000000000000000;", 2, 16);
         // all that stands behind may be wrong, too: an invalid byte in the place of each blank
-        String text = "blue 4 2 3 rule 2 trump 1 glow 3 fade 1 revive lead 1 seed 9 ; hand 0 1 2 ; tell 1 0 ; hand 1 3 ;";
+        String text = "blue 4 2 3 rule 2 trump 1 glow 3 fade 1 revive lead 1 seed 9 ;"
+            + " hand 0 1 2 ; tell 1 0 ; hand 1 3 ;";
         for (int at = text.indexOf(' '); at > 0; at = text.indexOf(' ', at + 1)) {
             fails(text.substring(0, at) + "!" + text.substring(at + 1).replace(' ', '?'), 1, at);
         }
