@@ -1,3 +1,6 @@
+import java.lang.reflect.Field;
+import java.lang.reflect.Method;
+import java.lang.reflect.Modifier;
 import java.nio.charset.StandardCharsets;
 import java.nio.file.Files;
 import java.nio.file.Path;
@@ -5,7 +8,7 @@ import java.util.List;
 import java.util.regex.Matcher;
 import java.util.regex.Pattern;
 
-/** What can be seen of ../shared/LANGUAGE.md in the lines of the source; it is run in the project's folder. */
+/** What can be seen of ../shared/LANGUAGE.md in the source and in the classes; it is run in the project's folder. */
 public final class LanguageTest {
     private static final Check C = new Check();
 
@@ -21,7 +24,30 @@ public final class LanguageTest {
         lengths(lines);
         C.due("classes in the file", Check.flag(count(code, "\\bclass \\w+") <= 12), 1);
         C.due("throws in nested classes", count(code.substring(code.indexOf("static final class Rows")), "\\bthrow\\b"), 0);
+        shape(FadingTrumps.class);
+        for (Class<?> inside : FadingTrumps.class.getDeclaredClasses()) {
+            int modifiers = inside.getModifiers();
+            C.due(inside + " is static", Check.flag(Modifier.isStatic(modifiers)), 1);
+            C.due(inside + " is open", Check.flag(Modifier.isPublic(modifiers) || Modifier.isProtected(modifiers)), 0);
+            shape(inside);
+        }
         C.end();
+    }
+
+    /** What a class keeps, and what its methods take. */
+    private static void shape(Class<?> c) {
+        int fields = 0;
+        for (Field f : c.getDeclaredFields()) {
+            if (Modifier.isStatic(f.getModifiers())) {
+                C.due(f + " is a constant", Check.flag(Modifier.isFinal(f.getModifiers()) && f.getType() == int.class), 1);
+            } else {
+                fields++;
+            }
+        }
+        C.due("fields of " + c, Check.flag(fields <= 20), 1);
+        for (Method m : c.getDeclaredMethods()) {
+            C.due("parameters of " + m, Check.flag(m.getParameterCount() <= 7), 1);
+        }
     }
 
     private static void line(int number, String line) {
